@@ -1206,8 +1206,10 @@ public final class HandOverHorse {
             for (int i = 0; i < size; i++) {
                 int step = steps[i];
                 if (step == NUMBER || step == NAME) {
-                    top++;
-                    stack[top] = step == NUMBER ? values[i] : named(values[i], a, b, c, d);
+                    if (top < stack.length - 1) {
+                        top++;
+                        stack[top] = step == NUMBER ? values[i] : named(values[i], a, b, c, d);
+                    }
                 } else if (step == '!') {
                     if (top >= 0) {
                         stack[top] = stack[top] == 0 ? 1 : 0;
@@ -1360,10 +1362,11 @@ public final class HandOverHorse {
         }
 
         /** What is lost, if a STROKE comes next when a set stands already. */
-        private int lossOf(int stroke, int set, int n) {
+        private int lossOf(int stroke, int set) {
+            int lacking = below[stroke] & ~set;
             int sum = 0;
-            for (int i = 0; i < n; i++) {
-                if (!has(set, i)) {
+            for (int i = 0; i < MOST_STROKES && lacking >> i != 0; i++) {
+                if (has(lacking, i)) {
                     sum += loss[stroke * MOST_STROKES + i];
                 }
             }
@@ -1371,6 +1374,7 @@ public final class HandOverHorse {
         }
 
         private void findLosses(Wall wall) {
+            findBelow(wall);
             for (int i = 0; i < loss.length; i++) {
                 loss[i] = 0;
             }
@@ -1389,7 +1393,7 @@ public final class HandOverHorse {
                 fewest[set] = MANY;
                 for (int i = 0; i < n; i++) {
                     if (!has(set, i)) {
-                        fewest[set] = Math.min(fewest[set], lossOf(i, set, n) + fewest[set | 1 << i]);
+                        fewest[set] = Math.min(fewest[set], lossOf(i, set) + fewest[set | 1 << i]);
                     }
                 }
             }
@@ -1402,7 +1406,7 @@ public final class HandOverHorse {
 
         private int firstOfBest(int set, int n) {
             for (int i = 0; i < n; i++) {
-                if (!has(set, i) && lossOf(i, set, n) + fewest[set | 1 << i] == fewest[set]) {
+                if (!has(set, i) && lossOf(i, set) + fewest[set | 1 << i] == fewest[set]) {
                     return i;
                 }
             }

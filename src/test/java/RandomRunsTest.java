@@ -238,13 +238,14 @@ public final class RandomRunsTest {
     private void doRest(int which) {
         int sheet = upTo(3);
         int other = upTo(3);
-        if (which < 82) {
+        if (which < 81) {
             int bits = new int[] {8, 16, 32, 0, edge()}[draws.nextInt(5)];
-            int n = upTo(draws.nextBoolean() ? 40 : 9);
+            int n = draws.nextInt(3) == 0 ? upTo(40) : upTo(10);
             answer("sheet(" + sheet + ", " + bits + ", " + n + ")", x.sheet(sheet, bits, n), naive.sheet(sheet, bits, n));
         } else if (which < 85) {
             int i = upTo(9);
-            int v = draws.nextInt(3) == 0 ? draws.nextInt() : upTo(draws.nextBoolean() ? 9999 : mostStrokes);
+            int fit = i % 3 == 2 ? 1 + draws.nextInt(99) : aStroke();
+            int v = draws.nextInt(5) == 0 ? draws.nextInt() : draws.nextInt(3) == 0 ? upTo(9999) : fit;
             answer("put(" + sheet + ", " + i + ", " + v + ")", x.put(sheet, i, v), naive.put(sheet, i, v));
         } else if (which < 87) {
             int i = upTo(9);

@@ -131,6 +131,7 @@ public final class SheetsTest {
         DUE.is("n 0, j behind the end", x.move(0, 0, 1, 4, 0), Due.BEYOND);
         DUE.is("n 0, i below 0", x.move(0, -1, 1, 0, 0), Due.BEYOND);
         DUE.is("n 0 at the ends", x.move(0, 5, 1, 3, 0), 0);
+        DUE.is("all of them", x.move(1, 0, 0, 0, 3), 3);
         rowIs("nothing has moved", x, 0, 1, 2, 3, 4, 5);
         DUE.is("to the same, upwards", x.move(0, 0, 0, 1, 4), 4);
         rowIs("as they all were, upwards", x, 0, 1, 1, 2, 3, 4);
@@ -162,6 +163,9 @@ public final class SheetsTest {
         for (int what = 0; what < 3; what++) {
             DUE.is("ofLook(1, " + what + ")", x.ofLook(1, what), parts[what]);
         }
+        row(x, 0, 0, 1, 7);
+        DUE.is("the last is whole", x.looks(0), 1);
+        DUE.is("forget it", x.forget(), 2);
         row(x, 0, 1, 0, 50, 1, 1, 50, 1, 2, 50);
         DUE.is("one over itself", x.looks(0), 1);
         row(x, 0, 1, 0, 100, 1, 2, 50);

@@ -90,6 +90,7 @@ public final class VoicesTest {
             DUE.is("peels of KIND " + kind, x.voice(kind, 2, 10), peels[kind]);
             DUE.is("tells of KIND " + kind, x.voice(kind, 3, 10), tells[kind]);
         }
+        DUE.is("peels of FORGED, bits that meet", x.voice(6, 2, 3 - 7), -(3 - 7 - 3) ^ 6);
         DUE.is("ints go round", x.voice(2, 0, Integer.MAX_VALUE), (Integer.MIN_VALUE + 1) * 3);
         DUE.is("an answer like an ERROR", x.voice(0, 0, Due.BEYOND), Due.BEYOND);
         DUE.is("is none", x.told(1), 4);

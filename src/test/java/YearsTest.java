@@ -64,6 +64,8 @@ public final class YearsTest {
         DUE.is("test(1, 0)", x.test(1, 0), Due.NONE);
         DUE.is("test(1, 9999): outside of what was told", x.test(1, 9999), 100 + 100);
         DUE.is("nothing has changed", x.span(1, 1), 100);
+        HandOverHorse one = told(new int[] {5}, new int[] {9});
+        DUE.is("WIDTH 0", one.test(0, 7), 0);
         x.change(2, 4, 601);
         DUE.is("another one has none", x.test(0, 40), Due.NONE);
         DUE.is("but by its own test", x.test(2, 0), 99 + 99);

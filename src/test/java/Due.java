@@ -8,6 +8,7 @@ final class Due {
     static final int KIND = LOW - 5;
 
     private final String test;
+    private String sentence = "";
     private int asked;
     private int wrong;
 
@@ -15,12 +16,17 @@ final class Due {
         this.test = test;
     }
 
+    /** The sentence of the document that the answers from here on are asked for. */
+    void says(String words) {
+        sentence = " [" + words + "]";
+    }
+
     void is(String call, int got, int want) {
         asked++;
         if (got != want) {
             wrong++;
             if (wrong <= 40) {
-                System.out.println(test + ": " + call + " answered " + got + ", due is " + want);
+                System.out.println(test + sentence + ": " + call + " answered " + got + ", due is " + want);
             }
         }
     }

@@ -59,7 +59,7 @@ public final class RefusedTest {
 
     private static void sheet(HandOverHorse x, int sheet, int bits, int n) {
         x.sheet(sheet, bits, n);
-        for (int i = 0; i < 8; i++) {
+        for (int i = 0; i < n; i++) {
             x.put(sheet, i, Twins.yearAt(i));
         }
     }

@@ -130,9 +130,12 @@ final class Twins {
         }
         for (int sheet = 0; sheet < 4; sheet++) {
             seen.add(x.judge(sheet));
-            for (int place = 7; place < 12; place++) {
-                seen.add(x.put(sheet, place, 0));
+            for (int place = 8; place < 12; place++) {
+                seen.add(x.move(sheet, place, sheet, 0, 1));
+                Walls.within(x, 0, yearAt(place), yearAt(place));
+                seen.add(x.judge(sheet));
             }
+            Walls.within(x, 0, yearAt(0), yearAt(0));
             seen.add(x.move(sheet, 0, 2, 0, 0));
             seen.add(x.put(sheet, 0, 65536 + 256 + yearAt(0)));
             seen.add(x.judge(sheet));

@@ -179,6 +179,5 @@ public final class ReadmeTest {
             told.add(name.group());
         }
         DUE.that("tests there " + there + ", told " + told, there.equals(told));
-        DUE.that(".ci/run is there and may be run", Files.isExecutable(Path.of(".ci/run")));
     }
 }

@@ -50,10 +50,10 @@ public final class RoomTest {
         return ROOM.getCurrentThreadAllocatedBytes() - ahead;
     }
 
-    /** An object or a row takes 16 bytes at least; one in each hundredth call is not the class's. */
+    /** An object or a row takes 16 bytes at least; one in each tenth call is not the class's. */
     private static void makesNothing(String call, Act act) {
         long bytes = taken(act);
-        DUE.that(call + " makes nothing, but took " + bytes + " bytes in " + MANY, bytes < MANY * 16 / 100);
+        DUE.that(call + " makes nothing, but took " + bytes + " bytes in " + MANY, bytes < MANY * 16 / 10);
     }
 
     private static void finds() {
